@@ -561,6 +561,17 @@ public final class PromiseTests {
         endOfDoubtedOnes();
         endOfTeams();
         endAgainstTheTop();
+        whatIsLeftOverGoesToTheLeastLevel();
+    }
+
+    /** 400000 at levels 1 and 5, 200000 at 3: a draw against an even one makes 393308.3, 393308.3 and 213383.4 of them. */
+    private static void whatIsLeftOverGoesToTheLeastLevel() {
+        FairQueue x = duel(0, 0);
+        allAtLevel(x, 0, 3);
+        x.shift(0, 3, 1, 400000);
+        x.shift(0, 3, 5, 400000);
+        x.end(0, 1);
+        dueTable("of two as great", x, 0, 0, 393309, 0, 213383, 0, 393308, 0);
     }
 
     private static void endOfNewOnes() {
@@ -822,6 +833,21 @@ public final class PromiseTests {
         due("what the tick makes", x.tick(), 2);
         due("teams are of players", x.match(1, 1), 8);
         checkWhereFiveGoOn();
+        checkByTimeWaited();
+    }
+
+    private static void checkByTimeWaited() {
+        FairQueue x = withPlayers(0, 0);
+        x.size(1);
+        x.shift(0, 0, 1, 100000);
+        x.bounds(0, 100000, 100000);
+        x.tick();
+        x.wait(0, -1, -1);
+        x.wait(1, -1, -1);
+        checkDue(x, "one that the bounds don't reach yet", 99, 1, 2);
+        due("no match is made", x.tick(), 0);
+        checkDue(x, "one that the bounds reach", 0, 1, 2);
+        due("a match is made", x.tick(), 1);
     }
 
     private static void checkDue(FairQueue x, String what, long want, int... numbers) {

@@ -1,4 +1,7 @@
-/** A test for each promise of the document, with answers that were worked out by hand from its words. */
+/**
+ * A test for each promise of the document. The answers were worked out from its words, not taken from the program: moved
+ * tables and the chances against them by a small script apart from it, all others by hand.
+ */
 public final class PromiseTests {
     private static final long BEYOND = -1000000001L;
     private static final long NONE = -1000000002L;

@@ -113,6 +113,24 @@ public final class LanguageRules {
         }
     }
 
+    /** The document says which calls each heading stands ahead of. */
+    private static void headings(String source) {
+        String[][] parts = {
+            {"players", "player", "become", "as", "share", "shift", "mean", "chance", "season"},
+            {"the queue", "size", "bounds", "wait", "leave", "waited", "pairing", "tick"},
+            {"matches", "match", "end", "drop", "surprise", "sinking", "limit"},
+            {"what is told", "tell", "check", "count", "found"}};
+        int from = 0;
+        for (String[] part : parts) {
+            for (int i = 0; i < part.length; i++) {
+                String line = i == 0 ? "    // ---- " + part[0] + "\n" : "    public long " + part[i] + "(";
+                int at = source.indexOf(line, from);
+                due(line + " stands behind what the document has ahead of it", at >= 0);
+                from = Math.max(at, from);
+            }
+        }
+    }
+
     private static FairQueue longRun() {
         FairQueue x = new FairQueue();
         for (int i = 0; i < 16; i++) {
@@ -183,8 +201,10 @@ public final class LanguageRules {
     }
 
     public static void main(String[] args) throws Exception {
-        String code = bare(Files.readString(Path.of("src/main/java/FairQueue.java")));
+        String source = Files.readString(Path.of("src/main/java/FairQueue.java"));
+        String code = bare(source);
         words(code);
+        headings(source);
         inside(face());
         roomIsSmall(code);
         System.out.println(wrong == 0 ? "the rules are kept" : wrong + " rules are not kept");

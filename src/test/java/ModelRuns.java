@@ -13,7 +13,10 @@ import java.util.TreeSet;
  */
 public final class ModelRuns {
     private static final int RUNS = 1500;
-    private static final int CALLS = 400;
+    /** What an object answers behind so many calls is free. */
+    private static final int MOST_CALLS = 512;
+    private static final int CALLS_OF_WHOLE_STATE = 16 * 7;
+    private static final int CALLS_OF_LONGEST_STEP = 30;
 
     static final class Member {
         int kind;
@@ -534,6 +537,7 @@ public final class ModelRuns {
     private final int wildness;
     private final boolean rounds;
     private boolean same = true;
+    private int calls = 0;
 
     private ModelRuns(long seed) {
         random = new Random(seed);
@@ -542,6 +546,7 @@ public final class ModelRuns {
     }
 
     private void due(String call, long got, long want) {
+        calls++;
         story.append(call).append(" -> ").append(got).append('\n');
         if (got != want) {
             same = false;
@@ -763,7 +768,8 @@ public final class ModelRuns {
             int t = 1 + random.nextInt(3);
             due("size " + t, x.size(t), y.size(t));
         }
-        for (int i = 0; i < CALLS && same; i++) {
+        int enough = MOST_CALLS - CALLS_OF_WHOLE_STATE - CALLS_OF_LONGEST_STEP;
+        for (int i = 0; calls < enough && same; i++) {
             int part = random.nextInt(20);
             if (rounds && i % 20 == 0) {
                 round();

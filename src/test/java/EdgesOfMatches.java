@@ -104,6 +104,19 @@ public final class EdgesOfMatches {
         Edges.due("of three", y.match(0, 4), 519999);
     }
 
+    @Says({"4 CHANCE of the first TEAM as TABLES are now", "CHANCE of a team against another one"})
+    static void promise17_chanceOfWholeTeams() {
+        FairQueue x = Edges.twoAgainstTwo(0, 0, 0, 2);
+        for (int p = 0; p <= 3; p++) {
+            Edges.allAtLevel(x, p, p == 0 || p == 3 ? 6 : 0);
+        }
+        // 920000 and 500000 of the first, 500000 and 80000 of the other one.
+        Edges.due("with a DOUBTED one", x.match(0, 4), 500000);
+        x.drop(0);
+        x.drop(2);
+        Edges.due("with those who dropped", x.match(0, 4), 500000);
+    }
+
     @Says("BEYOND: there is no such place, or another what")
     static void promise17_beyondNoSuchPlace() {
         for (int m : NO_PLACES) {
@@ -232,6 +245,22 @@ public final class EdgesOfMatches {
         Edges.allAtLevel(y, 1, 6);
         y.end(0, 1);
         dueHalves("drawn with the top", y, 0, 227441, 772559);
+    }
+
+    @Says({"Quotients are cut", "of a draw, c times (a MILLION less c) by a MILLION"})
+    static void promise18_factorOfADrawIsCut() {
+        FairQueue x = Edges.duel(0, 0);
+        Edges.halfAndHalf(x, 0);
+        x.shift(1, 0, 6, 1);
+        x.end(0, 1);
+        // 289999 and 709999 make 205899.58 and 205900.42.
+        dueHalves("cut to 205899 and 205900", x, 0, 499998, 500002);
+        FairQueue y = Edges.duel(0, 0);
+        Edges.halfAndHalf(y, 0);
+        y.shift(1, 0, 6, 2074);
+        y.end(0, 1);
+        // 289128 and 709128 make 205532.9996 and 206265.48.
+        dueHalves("cut to 205532 and 206265", y, 0, 499109, 500891);
     }
 
     @Says("then SHARES are made a MILLION together")

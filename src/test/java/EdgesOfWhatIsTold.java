@@ -332,7 +332,7 @@ public final class EdgesOfWhatIsTold {
         Edges.due("no NONE", x.found(2), 0);
     }
 
-    /** A SURPRISE is below 0, but no finding; nor is a check that answers 99. */
+    /** A SURPRISE is below 0, but no finding; nor is what a check answers. */
     @Says("How many acts have answered a finding LOW - k")
     static void promise26_otherAnswersAreNotCounted() {
         FairQueue x = Edges.duel(0, 0);
@@ -340,8 +340,12 @@ public final class EdgesOfWhatIsTold {
         Edges.due("below 0", x.surprise(0, 0), -500000);
         x.tell(1);
         Edges.due("more were told", x.check(), 99);
-        x.sinking();
-        x.tick();
+        x.bounds(10000000, 0, 10000000);
+        Edges.waitAlone(x, 0, 1);
+        Edges.due("one is missing", x.check(), 1);
+        Edges.due("nobody is sinking", x.sinking(), 0);
+        Edges.due("a match", x.tick(), 1);
+        Edges.due("no match", x.tick(), 0);
         for (int k = 1; k <= 5; k++) {
             Edges.due("found(" + k + ")", x.found(k), 0);
         }

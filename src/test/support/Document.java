@@ -18,6 +18,12 @@ final class Document {
         text = Files.readString(FILE);
     }
 
+    /** The form of a promise's call, as "long player(int kind)"; empty if there is no such promise. */
+    String formOf(int number) {
+        Matcher found = Pattern.compile("\n## Promise " + number + ": [^\n]*\n\\s*`([^`]*)`: ").matcher(text);
+        return found.find() ? found.group(1) : "";
+    }
+
     /** Of a promise what stands behind the call's form. */
     List<String> ofPromise(int number) {
         Matcher found = Pattern.compile("(?s)\n## Promise " + number + ": [^\n]*\n(.*?)\n## ").matcher(text);
